@@ -2,7 +2,8 @@
 public final class ModelTest {
     private static final int RUNS = 1500;
     private static final int CALLS = 500;
-    private static final int[] ODD = {-2147483648, -2147483647, -65, -1, 8, 64, 65, 192, 1073741824, 2147483646, 2147483647};
+    private static final int[] ODD = {
+        -2147483648, -2147483647, -65, -1, 2, 3, 4, 8, 64, 65, 192, 1073741824, 2147483646, 2147483647};
 
     private static long seed;
     private static int run;
@@ -75,7 +76,8 @@ public final class ModelTest {
 
     private static void write(int file, int from, int n) {
         int v = pick(4) == 0 ? 2147483647 - pick(3) : pick(100000) - 50000;
-        answer("write(" + file + ", " + from + ", " + n + ", " + v + ")", x.write(file, from, n, v), model.write(file, from, n, v));
+        String call = "write(" + file + ", " + from + ", " + n + ", " + v + ")";
+        answer(call, x.write(file, from, n, v), model.write(file, from, n, v));
     }
 
     private static void ask() {
