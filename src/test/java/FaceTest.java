@@ -78,6 +78,7 @@ public final class FaceTest {
     }
 
     private static boolean isConstant(Field field) {
-        return Modifier.isFinal(field.getModifiers()) && (field.getType() == int.class || field.getType() == long.class);
+        boolean isNumber = field.getType() == int.class || field.getType() == long.class;
+        return isNumber && Modifier.isFinal(field.getModifiers());
     }
 }
