@@ -4,14 +4,20 @@ public final class BackTest {
 
     public static void main(String[] args) {
         eachKindOfChange();
-        severalAtOnce();
-        oldIntsComeBack();
+        oneToFour();
+        asIfTheyHadNeverBeen();
+        placingAsIfTheyHadNeverBeen();
         changesAfterBack();
         notSoMany();
+        notSoManyChangesNothing();
+        moreThanFour();
+        intsOfFreeBlocksAreSeenNowhere();
+        oldIntsComeBack();
         Check.end();
     }
 
     private static void eachKindOfChange() {
+        Check.sentence("Takes the latest n changes back: each kind of change");
         ExtentVolume x = new ExtentVolume();
         x.write(0, 0, 4, 10);
         x.share(0, 1, 0, 2);
@@ -32,7 +38,8 @@ public final class BackTest {
         Check.due("back(1)", x.back(1), false);
     }
 
-    private static void severalAtOnce() {
+    private static void oneToFour() {
+        Check.sentence("the latest n changes (1..4)");
         for (int n = 1; n <= 4; n++) {
             ExtentVolume x = new ExtentVolume();
             for (int i = 0; i < 6; i++) {
@@ -46,21 +53,52 @@ public final class BackTest {
         }
     }
 
-    private static void oldIntsComeBack() {
-        ExtentVolume x = new ExtentVolume();
-        x.write(0, 0, 2, 10);
-        x.write(0, 0, 2, 20);
-        x.punch(0, 0, 2);
-        x.write(3, 0, 2, 30);
-        Check.places("the same blocks", x, 3, 0, 0, 1);
-        Check.due("back(2)", x.back(2), true);
-        Check.ints("before punch", x, 0, 0, 20, 21);
-        Check.places("no more", x, 3, 0, NONE, NONE);
-        Check.due("back(1)", x.back(1), true);
-        Check.ints("before the second write", x, 0, 0, 10, 11);
+    private static void asIfTheyHadNeverBeen() {
+        Check.sentence("as if they had never been");
+        for (int n = 1; n <= 4; n++) {
+            int stay = 4 - n;
+            int taken = n;
+            Same.due("back(" + n + ")", x -> {
+                mixedChanges(x, 4);
+                x.back(taken);
+            }, x -> mixedChanges(x, stay));
+        }
+    }
+
+    /** At most four changes, of all kinds. */
+    private static void mixedChanges(ExtentVolume x, int count) {
+        if (count > 0) {
+            x.write(0, 0, 40, 100);
+        }
+        if (count > 1) {
+            x.share(0, 5, 10, 20);
+        }
+        if (count > 2) {
+            x.punch(0, 5, 10);
+        }
+        if (count > 3) {
+            x.pack(5);
+        }
+    }
+
+    private static void placingAsIfTheyHadNeverBeen() {
+        Check.sentence("as if they had never been: for what comes behind");
+        Same.due("back(2), write, pack", x -> {
+            mixedChanges(x, 2);
+            x.punch(5, 0, 64);
+            x.write(3, 0, 64, 7);
+            x.back(2);
+            x.write(5, 12, 30, 9);
+            x.pack(0);
+        }, x -> {
+            mixedChanges(x, 2);
+            x.write(5, 12, 30, 9);
+            x.pack(0);
+        });
     }
 
     private static void changesAfterBack() {
+        Check.sentence("Takes the latest n changes back: also after back and new changes");
         ExtentVolume x = new ExtentVolume();
         for (int i = 0; i < 7; i++) {
             x.write(0, 0, 1, i);
@@ -78,18 +116,68 @@ public final class BackTest {
     }
 
     private static void notSoMany() {
+        Check.sentence("false .. if there are not so many");
+        for (int count = 0; count <= 4; count++) {
+            for (int n = 1; n <= 5; n++) {
+                ExtentVolume x = new ExtentVolume();
+                for (int i = 0; i < count; i++) {
+                    x.write(0, i, 1, i);
+                }
+                boolean due = n <= count;
+                Check.due("back(" + n + ") of " + count, x.back(n), due);
+                Check.due("changes()", x.changes(), due ? count - n : count);
+                Check.due("room(0, 1)", x.room(0, 1), due ? 64 - count + n : 64 - count);
+            }
+        }
+    }
+
+    private static void notSoManyChangesNothing() {
+        Check.sentence("false, and nothing changes, if there are not so many");
+        Same.due("back(4) of 3", x -> {
+            mixedChanges(x, 3);
+            Check.due("back(4)", x.back(4), false);
+        }, x -> mixedChanges(x, 3));
+    }
+
+    private static void moreThanFour() {
+        Check.sentence("(1..4): never more");
+        int[] many = {5, 6, 8, 9, 64, 2147483646, 2147483647};
         ExtentVolume x = new ExtentVolume();
-        x.write(0, 0, 1, 1);
-        x.write(0, 1, 1, 2);
-        Check.due("back(3)", x.back(3), false);
-        Check.due("back(5)", x.back(5), false);
-        Check.due("back(max)", x.back(Integer.MAX_VALUE), false);
-        Check.due("changes()", x.changes(), 2);
-        Check.ints("nothing changes", x, 0, 0, 1, 2);
-        x.write(0, 2, 1, 3);
-        x.write(0, 3, 1, 4);
-        x.write(0, 4, 1, 5);
-        Check.due("back(5) of five", x.back(5), false);
-        Check.ints("nothing changes", x, 0, 0, 1, 2, 3, 4, 5);
+        for (int i = 0; i < 9; i++) {
+            x.write(0, i, 1, i);
+        }
+        for (int n : many) {
+            Check.due("back(" + n + ")", x.back(n), false);
+        }
+        Check.due("changes()", x.changes(), 4);
+        Check.ints("nothing changes", x, 0, 0, 0, 1, 2, 3, 4, 5, 6, 7, 8);
+    }
+
+    private static void intsOfFreeBlocksAreSeenNowhere() {
+        Check.sentence("(Ints of free blocks are seen nowhere.)");
+        ExtentVolume x = new ExtentVolume();
+        x.write(0, 0, 2, 10);
+        x.back(1);
+        Check.ints("holes", x, 0, 0, 0, 0);
+        x.write(3, 5, 2, 20);
+        Check.places("the same blocks", x, 3, 5, 0, 1);
+        Check.ints("the new ints", x, 3, 5, 20, 21);
+        x.share(3, 0, 5, 2);
+        Check.ints("the new ints", x, 0, 5, 20, 21);
+    }
+
+    private static void oldIntsComeBack() {
+        Check.sentence("as if they had never been: the ints of blocks that others took");
+        ExtentVolume x = new ExtentVolume();
+        x.write(0, 0, 2, 10);
+        x.write(0, 0, 2, 20);
+        x.punch(0, 0, 2);
+        x.write(3, 0, 2, 30);
+        Check.places("the same blocks", x, 3, 0, 0, 1);
+        Check.due("back(2)", x.back(2), true);
+        Check.ints("before punch", x, 0, 0, 20, 21);
+        Check.places("no more", x, 3, 0, NONE, NONE);
+        Check.due("back(1)", x.back(1), true);
+        Check.ints("before the second write", x, 0, 0, 10, 11);
     }
 }

@@ -1,6 +1,14 @@
 /** Promise 8: changes. */
 public final class ChangesTest {
     public static void main(String[] args) {
+        noneToFour();
+        afterBack();
+        asksAndRefusalsAreNone();
+        Check.end();
+    }
+
+    private static void noneToFour() {
+        Check.sentence("How many changes can be taken back: 0 to 4");
         ExtentVolume x = new ExtentVolume();
         Check.due("changes()", x.changes(), 0);
         x.write(0, 0, 1, 1);
@@ -12,14 +20,28 @@ public final class ChangesTest {
         x.pack(0);
         Check.due("changes() after pack", x.changes(), 4);
         x.write(0, 0, 1, 1);
-        Check.due("changes() are 4 at most", x.changes(), 4);
-        x.back(3);
-        Check.due("changes() after back(3)", x.changes(), 1);
-        asksAndRefusalsAreNone(x);
-        Check.end();
+        Check.due("changes() after a fifth one", x.changes(), 4);
+        Check.due("changes() asked again", x.changes(), 4);
     }
 
-    private static void asksAndRefusalsAreNone(ExtentVolume x) {
+    private static void afterBack() {
+        Check.sentence("How many changes can be taken back: after back, which is none itself");
+        ExtentVolume x = new ExtentVolume();
+        for (int i = 0; i < 4; i++) {
+            x.write(0, 0, 1, i);
+        }
+        x.back(3);
+        Check.due("changes() after back(3)", x.changes(), 1);
+        x.back(1);
+        Check.due("changes() after back(1)", x.changes(), 0);
+        x.write(0, 0, 1, 1);
+        Check.due("changes() after a new one", x.changes(), 1);
+    }
+
+    private static void asksAndRefusalsAreNone() {
+        Check.sentence("How many changes can be taken back: asks and refused calls are none");
+        ExtentVolume x = new ExtentVolume();
+        x.write(0, 0, 1, 1);
         x.read(0, 0);
         x.place(0, 0);
         x.uses(0);
@@ -31,6 +53,6 @@ public final class ChangesTest {
         x.share(1, 1, 0, 1);
         x.pack(8);
         x.back(2);
-        Check.due("changes() after asks and refusals", x.changes(), 1);
+        Check.due("changes()", x.changes(), 1);
     }
 }

@@ -1,21 +1,39 @@
 /** Counts the answers that are not the ones that are due, and ends a test. */
 final class Check {
+    /** Numbers that name no file; the last one times 64 wraps to 0. */
+    static final int[] NO_FILES = {-1, 8, 9, 64, -2147483648, 2147483647, 67108864};
+
+    /** Pieces from the first number on, as many as the second one: one of them at least is none. */
+    static final int[][] NO_PIECES = {
+        {-1, 1}, {-1, 2}, {-64, 64}, {-64, 128}, {64, 1}, {63, 2}, {62, 3}, {1, 64}, {0, 65}, {0, 128},
+        {0, 2147483647}, {1, 2147483647}, {63, 2147483647}, {2147483647, 1}, {2147483647, 2147483647},
+        {-2147483648, 1}, {-2147483648, 2147483647}, {-1, 2147483647}, {2147483584, 64}};
+
+    /** Counts of pieces, or of changes, that are below 1. */
+    static final int[] BELOW_ONE = {0, -1, -2, -64, -2147483647, -2147483648};
+
+    private static String sentence = "";
     private static int wrong = 0;
 
     private Check() {
     }
 
+    /** The words of the document that the next calls test: told with each wrong answer. */
+    static void sentence(String words) {
+        sentence = "[" + words + "] ";
+    }
+
     static void due(String call, int got, int want) {
         if (got != want) {
             wrong++;
-            System.out.println(call + " answered " + got + ", due is " + want);
+            System.out.println(sentence + call + " answered " + got + ", due is " + want);
         }
     }
 
     static void due(String call, boolean got, boolean want) {
         if (got != want) {
             wrong++;
-            System.out.println(call + " answered " + got + ", due is " + want);
+            System.out.println(sentence + call + " answered " + got + ", due is " + want);
         }
     }
 

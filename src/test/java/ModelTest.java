@@ -1,7 +1,7 @@
 /** All promises: long runs of calls, each answer held against the model's. Every run is the same each time. */
 public final class ModelTest {
     private static final int RUNS = 1500;
-    private static final int CALLS = 500;
+    private static final int CALLS = 512;
     private static final int[] ODD = {
         -2147483648, -2147483647, -65, -1, 2, 3, 4, 8, 64, 65, 192, 1073741824, 2147483646, 2147483647};
 
