@@ -13,6 +13,7 @@ public final class BackTest {
         moreThanFour();
         intsOfFreeBlocksAreSeenNowhere();
         oldIntsComeBack();
+        oldIntsOfAllBlocksComeBack();
         Check.end();
     }
 
@@ -179,5 +180,24 @@ public final class BackTest {
         Check.places("no more", x, 3, 0, NONE, NONE);
         Check.due("back(1)", x.back(1), true);
         Check.ints("before the second write", x, 0, 0, 10, 11);
+    }
+
+    private static void oldIntsOfAllBlocksComeBack() {
+        Check.sentence("as if they had never been: the ints of all blocks");
+        Same.due("back(3)", x -> {
+            writeAll(x, 1000);
+            x.settle();
+            writeAll(x, 5000);
+            x.back(3);
+        }, x -> {
+            writeAll(x, 1000);
+            x.settle();
+        });
+    }
+
+    private static void writeAll(ExtentVolume x, int v) {
+        for (int file = 0; file < 3; file++) {
+            x.write(file, 0, 64, v + 100 * file);
+        }
     }
 }

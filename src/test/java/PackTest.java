@@ -14,6 +14,7 @@ public final class PackTest {
         sharedPiecesGetTheirOwnBlocks();
         howManyExtents();
         asManyFreeBlocksAsPieces();
+        anyFreeBlockWillDo();
         sharedPiecesCountForFull();
         fullChangesNothing();
         noPieces();
@@ -165,6 +166,20 @@ public final class PackTest {
         Check.due("pack(4) with 64 free blocks", x.pack(4), 2);
         x.punch(4, 63, 1);
         Check.due("pack(4) of 63 pieces", x.pack(4), 2);
+    }
+
+    private static void anyFreeBlockWillDo() {
+        Check.sentence("FULL .. if there are fewer free blocks: the first and last of each group count");
+        for (int file = 0; file < 3; file++) {
+            for (int piece = 0; piece < 64; piece += 63) {
+                ExtentVolume x = Check.fullVolume();
+                x.share(0, 3, 30, 1);
+                x.punch(file, piece, 1);
+                Check.due("pack(3)", x.pack(3), 1);
+                Check.places("the one free block", x, 3, 30, 64 * file + piece);
+                Check.ints("the one free block", x, 3, 30, 30);
+            }
+        }
     }
 
     private static void sharedPiecesCountForFull() {

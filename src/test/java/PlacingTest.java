@@ -17,6 +17,7 @@ public final class PlacingTest {
         nearBehindASharedPiece();
         nearTheLastOneThatWasPlaced();
         bestGroupsInTheirOrder();
+        bestInLaterGroups();
         bestAsManyAsAreLeft();
         bestIsTheFirstGroupWithRoom();
         bestIsTheShortest();
@@ -212,6 +213,20 @@ public final class PlacingTest {
                 int due = (file + full) % 3 * 64;
                 x.write(file, 10, 2, 0);
                 Check.places(full + " groups are full", x, file, 9, NONE, due, due + 1, NONE);
+            }
+        }
+    }
+
+    private static void bestInLaterGroups() {
+        Check.sentence("BEST: .. the next one, the one behind that: before LONGEST");
+        for (int file = 3; file < 6; file++) {
+            for (int later = 1; later < 3; later++) {
+                ExtentVolume x = Check.fullVolume();
+                int group = (file + later) % 3;
+                x.punch(group, 5, 5);
+                x.punch(group, 20, 2);
+                x.write(file, 0, 2, 0);
+                Check.places("two of five and two", x, file, 0, group * 64 + 20, group * 64 + 21);
             }
         }
     }

@@ -14,6 +14,7 @@ public final class WriteTest {
         eachRowByItself();
         howManyWerePlaced();
         fewerFreeBlocks();
+        anyFreeBlockWillDo();
         noneNeededInAFullVolume();
         sharedBlocksAreNotFree();
         fullChangesNothing();
@@ -142,6 +143,19 @@ public final class WriteTest {
         Check.due("three for three blocks", x.write(3, 0, 3, 0), 3);
         Check.places("all three", x, 3, 0, 10, 74, 138);
         Check.due("one for no block", x.write(3, 3, 1, 0), FULL);
+    }
+
+    private static void anyFreeBlockWillDo() {
+        Check.sentence("FULL .. if there are fewer free blocks: the first and last of each group count");
+        for (int file = 0; file < 3; file++) {
+            for (int piece = 0; piece < 64; piece += 63) {
+                ExtentVolume x = Check.fullVolume();
+                x.punch(file, piece, 1);
+                Check.due("write(3, 9, 2, 5)", x.write(3, 9, 2, 5), FULL);
+                Check.due("write(3, 9, 1, 5)", x.write(3, 9, 1, 5), 1);
+                Check.places("the one free block", x, 3, 9, 64 * file + piece);
+            }
+        }
     }
 
     private static void noneNeededInAFullVolume() {
